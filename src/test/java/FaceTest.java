@@ -1,0 +1,113 @@
+import java.lang.reflect.Constructor;
+import java.lang.reflect.Field;
+import java.lang.reflect.Method;
+import java.lang.reflect.Modifier;
+import java.util.Arrays;
+import java.util.Set;
+import java.util.TreeSet;
+
+/** The public face of the document, and the rules 1, 2, 5 and 10 of LANGUAGE.md as far as the class itself shows them. */
+public final class FaceTest {
+    private static final Checks checks = new Checks();
+
+    public static void main(String[] args) {
+        constantsAreAsDue();
+        publicMembersAreTheDocuments();
+        everyOtherMemberIsPrivate();
+        fieldsAreNumbersAndArrays();
+        methodsTakeFewNumbers();
+        checks.finish();
+    }
+
+    private static void constantsAreAsDue() {
+        checks.due("ADD", LedgerScript.ADD, 0);
+        checks.due("LIFT", LedgerScript.LIFT, 1);
+        checks.due("TRIM", LedgerScript.TRIM, 2);
+        checks.due("SET", LedgerScript.SET, 3);
+    }
+
+    private static void publicMembersAreTheDocuments() {
+        Class<LedgerScript> face = LedgerScript.class;
+        checks.dueText("the class", Modifier.toString(face.getModifiers()), "public final");
+        checks.dueText("the superclass", face.getSuperclass().getName(), "java.lang.Object");
+        checks.due("interfaces", face.getInterfaces().length, 0);
+        checks.due("nested classes", face.getDeclaredClasses().length, 0);
+        Set<String> found = new TreeSet<>();
+        for (Constructor<?> constructor : face.getConstructors()) {
+            found.add("new" + Arrays.toString(constructor.getParameterTypes()));
+        }
+        for (Field field : face.getFields()) {
+            found.add(field.toString());
+        }
+        for (Method method : face.getMethods()) {
+            if (method.getDeclaringClass() == face) {
+                found.add(Modifier.toString(method.getModifiers()) + " " + method.getReturnType() + " " + method.getName()
+                    + " " + method.getParameterCount());
+            }
+        }
+        Set<String> want = new TreeSet<>();
+        want.add("new[int, int]");
+        for (String name : "ADD LIFT TRIM SET".split(" ")) {
+            want.add("public static final int LedgerScript." + name);
+        }
+        for (String method : ("cap 0,size 0,insert 3,remove 1,move 3,copy 3,reverse 2,setVoid 3,kindAt 1,amountAt 1,voidAt 1,"
+            + "run 3,repeat 4,rest 3,leastOpening 3,openings 3,liveCount 2,net 2").split(",")) {
+            want.add("public int " + method);
+        }
+        checks.dueText("the public face", found.toString(), want.toString());
+    }
+
+    private static void everyOtherMemberIsPrivate() {
+        Set<String> publicNames = new TreeSet<>();
+        for (Method method : LedgerScript.class.getMethods()) {
+            publicNames.add(method.getName());
+        }
+        for (Method method : LedgerScript.class.getDeclaredMethods()) {
+            if (!Modifier.isPublic(method.getModifiers())) {
+                dueTrue(method + " is private", Modifier.isPrivate(method.getModifiers()));
+                dueTrue(method + " has a name of its own", !publicNames.contains(method.getName()));
+            }
+        }
+        for (Constructor<?> constructor : LedgerScript.class.getDeclaredConstructors()) {
+            dueTrue(constructor + " is public", Modifier.isPublic(constructor.getModifiers()));
+        }
+        for (Field field : LedgerScript.class.getDeclaredFields()) {
+            int modifiers = field.getModifiers();
+            dueTrue(field + " is public or private", Modifier.isPublic(modifiers) || Modifier.isPrivate(modifiers));
+        }
+    }
+
+    private static void fieldsAreNumbersAndArrays() {
+        for (Field field : LedgerScript.class.getDeclaredFields()) {
+            if (Modifier.isStatic(field.getModifiers())) {
+                dueTrue(field + " is final", Modifier.isFinal(field.getModifiers()));
+                dueTrue(field + " is int or long", field.getType() == int.class || field.getType() == long.class);
+            } else {
+                dueTrue(field + " is a number or an array of them", isAllowed(field.getType()));
+            }
+        }
+    }
+
+    private static void methodsTakeFewNumbers() {
+        for (Method method : LedgerScript.class.getDeclaredMethods()) {
+            dueTrue(method + " takes seven at most", method.getParameterCount() <= 7);
+            dueTrue(method + " answers a number or nothing",
+                method.getReturnType() == void.class || isPlain(method.getReturnType()));
+            for (Class<?> type : method.getParameterTypes()) {
+                dueTrue(method + " takes numbers and arrays of them", isAllowed(type));
+            }
+        }
+    }
+
+    private static boolean isAllowed(Class<?> type) {
+        return isPlain(type) || type.isArray() && isPlain(type.getComponentType());
+    }
+
+    private static boolean isPlain(Class<?> type) {
+        return type.isPrimitive() && type != float.class && type != double.class && type != void.class;
+    }
+
+    private static void dueTrue(String what, boolean holds) {
+        checks.dueText(what, Boolean.toString(holds), "true");
+    }
+}
