@@ -1,4 +1,5 @@
 import java.util.ArrayList;
+import java.util.Arrays;
 import java.util.Collections;
 import java.util.List;
 
@@ -180,7 +181,7 @@ final class Model {
         if (bad(from, to)) {
             return -1;
         }
-        return outside(y) ? -2 : (int) java.util.Arrays.stream(table(from, to)).filter(closing -> closing == y).count();
+        return outside(y) ? -2 : (int) Arrays.stream(table(from, to)).filter(closing -> closing == y).count();
     }
 
     int liveCount(int from, int to) {
