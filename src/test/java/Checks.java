@@ -1,19 +1,43 @@
-/** Counts and prints the answers of one test that are not as due. */
+/** Runs the tests of one file, each under the words of the document that it holds, and prints what is not as due. */
 final class Checks {
-    private int wrong = 0;
+    // A broken program can fail some hundred thousand rows; the first ones of each test tell enough.
+    private static final int MOST_PRINTED = 5;
 
-    void due(String call, int got, int want) {
-        if (got != want) {
-            wrong++;
-            System.out.println(call + " answered " + got + ", due is " + want);
+    private String words = "";
+    private int rows = 0;
+    private int wrong = 0;
+    private int wrongBefore = 0;
+
+    void holds(String wordsOfTheDocument, Runnable test) {
+        words = wordsOfTheDocument;
+        int rowsBefore = rows;
+        wrongBefore = wrong;
+        try {
+            test.run();
+        } catch (RuntimeException fault) {
+            tellWrong("the test ended with " + fault);
+        }
+        if (rows == rowsBefore) {
+            tellWrong("nothing was tested");
         }
     }
 
-    void dueText(String what, String got, String want) {
-        if (!got.equals(want)) {
-            wrong++;
-            System.out.println(what + " is " + got + ", due is " + want);
+    void due(Object call, int got, int want) {
+        rows++;
+        if (got != want) {
+            tellWrong(call + " answered " + got + ", due is " + want);
         }
+    }
+
+    void dueText(Object what, String got, String want) {
+        rows++;
+        if (!got.equals(want)) {
+            tellWrong(what + " is " + got + ", due is " + want);
+        }
+    }
+
+    void dueTrue(Object what, boolean holds) {
+        dueText(what, Boolean.toString(holds), "true");
     }
 
     boolean clean() {
@@ -22,7 +46,15 @@ final class Checks {
 
     void finish() {
         if (wrong != 0) {
+            System.out.println(wrong + " of " + rows + " rows are not as due");
             System.exit(1);
+        }
+    }
+
+    private void tellWrong(String what) {
+        wrong++;
+        if (wrong - wrongBefore <= MOST_PRINTED) {
+            System.out.println((words.isEmpty() ? "" : "\"" + words + "\": ") + what);
         }
     }
 }

@@ -64,37 +64,37 @@ public final class FaceTest {
         }
         for (Method method : LedgerScript.class.getDeclaredMethods()) {
             if (!Modifier.isPublic(method.getModifiers())) {
-                dueTrue(method + " is private", Modifier.isPrivate(method.getModifiers()));
-                dueTrue(method + " has a name of its own", !publicNames.contains(method.getName()));
+                checks.dueTrue(method + " is private", Modifier.isPrivate(method.getModifiers()));
+                checks.dueTrue(method + " has a name of its own", !publicNames.contains(method.getName()));
             }
         }
         for (Constructor<?> constructor : LedgerScript.class.getDeclaredConstructors()) {
-            dueTrue(constructor + " is public", Modifier.isPublic(constructor.getModifiers()));
+            checks.dueTrue(constructor + " is public", Modifier.isPublic(constructor.getModifiers()));
         }
         for (Field field : LedgerScript.class.getDeclaredFields()) {
             int modifiers = field.getModifiers();
-            dueTrue(field + " is public or private", Modifier.isPublic(modifiers) || Modifier.isPrivate(modifiers));
+            checks.dueTrue(field + " is public or private", Modifier.isPublic(modifiers) || Modifier.isPrivate(modifiers));
         }
     }
 
     private static void fieldsAreNumbersAndArrays() {
         for (Field field : LedgerScript.class.getDeclaredFields()) {
             if (Modifier.isStatic(field.getModifiers())) {
-                dueTrue(field + " is final", Modifier.isFinal(field.getModifiers()));
-                dueTrue(field + " is int or long", field.getType() == int.class || field.getType() == long.class);
+                checks.dueTrue(field + " is final", Modifier.isFinal(field.getModifiers()));
+                checks.dueTrue(field + " is int or long", field.getType() == int.class || field.getType() == long.class);
             } else {
-                dueTrue(field + " is a number or an array of them", isAllowed(field.getType()));
+                checks.dueTrue(field + " is a number or an array of them", isAllowed(field.getType()));
             }
         }
     }
 
     private static void methodsTakeFewNumbers() {
         for (Method method : LedgerScript.class.getDeclaredMethods()) {
-            dueTrue(method + " takes seven at most", method.getParameterCount() <= 7);
-            dueTrue(method + " answers a number or nothing",
+            checks.dueTrue(method + " takes seven at most", method.getParameterCount() <= 7);
+            checks.dueTrue(method + " answers a number or nothing",
                 method.getReturnType() == void.class || isPlain(method.getReturnType()));
             for (Class<?> type : method.getParameterTypes()) {
-                dueTrue(method + " takes numbers and arrays of them", isAllowed(type));
+                checks.dueTrue(method + " takes numbers and arrays of them", isAllowed(type));
             }
         }
     }
@@ -105,9 +105,5 @@ public final class FaceTest {
 
     private static boolean isPlain(Class<?> type) {
         return type.isPrimitive() && type != float.class && type != double.class && type != void.class;
-    }
-
-    private static void dueTrue(String what, boolean holds) {
-        checks.dueText(what, Boolean.toString(holds), "true");
     }
 }

@@ -2,6 +2,7 @@ import java.util.ArrayList;
 import java.util.Arrays;
 import java.util.Collections;
 import java.util.List;
+import java.util.stream.Collectors;
 
 /**
  * A second version of the document, over library lists, that the program is held against. It is written another way
@@ -26,13 +27,30 @@ final class Model {
         }
     }
 
-    final int cap;
-    final int room;
-    final List<Entry> entries = new ArrayList<>();
+    private final int cap;
+    private final int room;
+    private final List<Entry> entries = new ArrayList<>();
 
     Model(int cap, int room) {
         this.cap = Math.max(4, Math.min(60, cap));
         this.room = Math.max(2, Math.min(40, room));
+    }
+
+    int cap() {
+        return cap;
+    }
+
+    int size() {
+        return entries.size();
+    }
+
+    int room() {
+        return room;
+    }
+
+    String text() {
+        return entries.stream().map(entry -> Entries.text(entry.kind(), entry.amount(), entry.isVoid()))
+            .collect(Collectors.joining(" "));
     }
 
     private boolean bad(int from, int to) {

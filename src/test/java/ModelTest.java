@@ -9,16 +9,24 @@ public final class ModelTest {
     // A counter of its own instead of a random source, so that every run of the test makes the same calls.
     private static long state;
 
-    private LedgerScript script;
-    private Model model;
-    private String trace;
+    private final Tried tried;
+
+    private ModelTest(Tried tried) {
+        this.tried = tried;
+    }
 
     public static void main(String[] args) {
+        checks.holds("promises 1 to 19", ModelTest::runs);
+        checks.finish();
+    }
+
+    private static void runs() {
         for (int run = 0; run < RUNS && checks.clean(); run++) {
             state = run;
-            new ModelTest().compare(run);
+            int cap = between(0, 64);
+            int room = between(0, 44);
+            new ModelTest(new Tried(checks, cap, room)).compare();
         }
-        checks.finish();
     }
 
     private static int below(int bound) {
@@ -30,92 +38,74 @@ public final class ModelTest {
         return least + below(most - least + 1);
     }
 
-    private int maybeStrange(int usual) {
+    private static int maybeStrange(int usual) {
         return below(40) == 0 ? STRANGE[below(STRANGE.length)] : usual;
     }
 
     private int position() {
-        return maybeStrange(between(-below(2), model.entries.size() + below(2)));
+        return maybeStrange(between(-below(2), tried.size() + below(2)));
     }
 
     private int balance() {
-        return maybeStrange(between(-below(2), model.cap + below(2)));
+        return maybeStrange(between(-below(2), tried.cap() + below(2)));
     }
 
-    private void compare(int run) {
-        int cap = between(0, 64);
-        int room = between(0, 44);
-        script = new LedgerScript(cap, room);
-        model = new Model(cap, room);
-        checks.due("run " + run + ": cap()", script.cap(), model.cap);
+    private void compare() {
+        tried.same("cap");
         // Some of the runs grow fast and stay near room, where most refusals are.
         int eagerness = below(4);
         for (int step = 0; step < STEPS && checks.clean(); step++) {
-            trace = "run " + run + ", step " + step + ": ";
-            if (below(4) < eagerness && model.entries.size() < model.room) {
+            if (below(4) < eagerness && tried.size() < tried.room()) {
                 insert();
             } else {
                 edit(below(6));
             }
-            due("size()", script.size(), model.entries.size());
+            tried.same("size");
             compareEntry(position());
             ask(below(7));
         }
-        for (int pos = -1; pos <= model.entries.size(); pos++) {
-            compareEntry(pos);
-        }
-    }
-
-    private void due(String call, int got, int want) {
-        checks.due(trace + call, got, want);
+        tried.sameList();
     }
 
     private void insert() {
         int pos = position();
         int kind = maybeStrange(between(-below(2), 3 + below(2)));
-        int amount = maybeStrange(kind == 0 ? between(-model.cap - 1, model.cap + 1) : balance());
-        due("insert(" + pos + ", " + kind + ", " + amount + ")", script.insert(pos, kind, amount),
-            model.insert(pos, kind, amount));
+        int amount = maybeStrange(kind == 0 ? between(-tried.cap() - 1, tried.cap() + 1) : balance());
+        tried.same("insert", pos, kind, amount);
     }
 
     private void edit(int which) {
-        int a = position();
-        int b = below(3) == 0 ? position() : Math.max(a, position());
+        int from = position();
+        int to = below(3) == 0 ? position() : Math.max(from, position());
         int dest = position();
-        String block = "(" + a + ", " + b + ", ";
         switch (which) {
             case 0 -> insert();
-            case 1 -> due("remove(" + a + ")", script.remove(a), model.remove(a));
-            case 2 -> due("move" + block + dest + ")", script.move(a, b, dest), model.move(a, b, dest));
-            case 3 -> due("copy" + block + dest + ")", script.copy(a, b, dest), model.copy(a, b, dest));
-            case 4 -> due("reverse" + block + ")", script.reverse(a, b), model.reverse(a, b));
-            default -> {
-                int flag = between(-1, 1) * between(0, 3);
-                due("setVoid" + block + flag + ")", script.setVoid(a, b, flag), model.setVoid(a, b, flag));
-            }
+            case 1 -> tried.same("remove", from);
+            case 2 -> tried.same("move", from, to, dest);
+            case 3 -> tried.same("copy", from, to, dest);
+            case 4 -> tried.same("reverse", from, to);
+            default -> tried.same("setVoid", from, to, between(-1, 1) * between(0, 3));
         }
     }
 
     private void compareEntry(int pos) {
-        due("kindAt(" + pos + ")", script.kindAt(pos), model.kindAt(pos));
-        due("amountAt(" + pos + ")", script.amountAt(pos), model.amountAt(pos));
-        due("voidAt(" + pos + ")", script.voidAt(pos), model.voidAt(pos));
+        tried.same("kindAt", pos);
+        tried.same("amountAt", pos);
+        tried.same("voidAt", pos);
     }
 
     private void ask(int which) {
-        int a = position();
-        int b = below(4) == 0 ? position() : Math.max(a, position());
+        int from = position();
+        int to = below(4) == 0 ? position() : Math.max(from, position());
         int x = balance();
-        int times = maybeStrange(between(-1, 201));
-        String block = "(" + a + ", " + b + ", " + x + ", " + times + ")";
         switch (which) {
-            case 0 -> due("run" + block, script.run(a, b, x), model.run(a, b, x));
-            case 1 -> due("repeat" + block, script.repeat(a, b, x, times), model.repeat(a, b, x, times));
-            case 2 -> due("rest" + block, script.rest(a, b, x), model.rest(a, b, x));
-            case 3 -> due("leastOpening" + block, script.leastOpening(a, b, x), model.leastOpening(a, b, x));
-            case 4 -> due("openings" + block, script.openings(a, b, x), model.openings(a, b, x));
-            case 5 -> due("liveCount" + block, script.liveCount(a, b), model.liveCount(a, b));
-            default -> due("net" + block, script.net(a, b), model.net(a, b));
+            case 0 -> tried.same("run", from, to, x);
+            case 1 -> tried.same("repeat", from, to, x, maybeStrange(between(-1, 201)));
+            case 2 -> tried.same("rest", from, to, x);
+            case 3 -> tried.same("leastOpening", from, to, x);
+            case 4 -> tried.same("openings", from, to, x);
+            case 5 -> tried.same("liveCount", from, to);
+            default -> tried.same("net", from, to);
         }
     }
 }
