@@ -11,11 +11,11 @@ public final class FaceTest {
     private static final Checks checks = new Checks();
 
     public static void main(String[] args) {
-        constantsAreAsDue();
-        publicMembersAreTheDocuments();
-        everyOtherMemberIsPrivate();
-        fieldsAreNumbersAndArrays();
-        methodsTakeFewNumbers();
+        checks.holds("The public face: constants", FaceTest::constantsAreAsDue);
+        checks.holds("The public face: constructor and methods", FaceTest::publicMembersAreTheDocuments);
+        checks.holds("rule 1: no other member is seen", FaceTest::everyOtherMemberIsPrivate);
+        checks.holds("rules 2 and 5: fields", FaceTest::fieldsAreNumbersAndArrays);
+        checks.holds("rules 2 and 10: parameters and answers", FaceTest::methodsTakeFewNumbers);
         checks.finish();
     }
 

@@ -55,15 +55,15 @@ public final class InsertTest {
 
     private static void fullIsRefused() {
         for (int room : new int[] {2, 3, 39, 40}) {
-            Tried tried = Tried.of(checks, 20, room, Entries.many(room - 1));
-            tried.due(room, "insert", 0, 0, 0);
             for (int pos : new int[] {0, 1, room - 1, room}) {
+                Tried tried = Tried.of(checks, 20, room, Entries.many(room - 1));
+                tried.due(room, "insert", 0, 0, 0);
                 tried.due(-1, "insert", pos, 0, 0);
+                tried.sameList();
+                tried.same("remove", room - 1);
+                tried.due(room, "insert", room - 1, 1, 1);
+                tried.due(-1, "insert", pos, 1, 1);
             }
-            tried.sameList();
-            tried.same("remove", room - 1);
-            tried.due(room, "insert", room - 1, 1, 1);
-            tried.due(-1, "insert", room, 1, 1);
         }
         Tried filledByCopy = Tried.of(checks, 20, 4, "a1 a2");
         filledByCopy.due(4, "copy", 0, 2, 1);
@@ -74,11 +74,11 @@ public final class InsertTest {
 
     private static void badPositions() {
         for (int size : new int[] {0, 1, 5, 38, 39}) {
-            Tried refusing = Tried.of(checks, 20, 40, Entries.many(size));
             for (int pos : Edges.outside(0, size)) {
-                refusing.due(-2, "insert", pos, 0, 0);
+                Tried tried = Tried.of(checks, 20, 40, Entries.many(size));
+                tried.due(-2, "insert", pos, 0, 0);
+                tried.sameList();
             }
-            refusing.sameList();
             for (int pos : Edges.inside(0, size)) {
                 Tried tried = Tried.of(checks, 20, 40, Entries.many(size));
                 tried.due(size + 1, "insert", pos, 0, 0);
@@ -102,7 +102,7 @@ public final class InsertTest {
 
     private static void badAmounts() {
         for (int given : new int[] {Edges.LOW, 3, 4, 5, 20, 59, 60, 61, Edges.HIGH}) {
-            int cap = new LedgerScript(given, 10).cap();
+            int cap = new Model(given, 10).cap();
             amountsAre(given, LedgerScript.ADD, -cap, cap);
             amountsAre(given, LedgerScript.LIFT, 0, cap);
             amountsAre(given, LedgerScript.TRIM, 0, cap);

@@ -14,6 +14,10 @@ public final class TermsTest {
         new Call("rest", 0, 2, 3), new Call("leastOpening", 0, 2, 3), new Call("openings", 0, 2, 3),
         new Call("liveCount", 0, 2), new Call("net", 0, 2));
 
+    private static final int[] CAPS = {4, 5, 20, 59, 60};
+    private static final int[][] GIVEN_AND_CLAMPED = {{Edges.LOW, 4}, {3, 4}, {4, 4}, {5, 5}, {59, 59}, {60, 60}, {61, 60},
+        {Edges.HIGH, 60}};
+
     public static void main(String[] args) {
         checks.holds("at most 512 calls", TermsTest::callsUpToTheLast);
         checks.holds("at most 512 calls (of one method)", TermsTest::callsOfOneMethodUpToTheLast);
@@ -136,7 +140,7 @@ public final class TermsTest {
     }
 
     private static void addWithinTheEdges() {
-        for (int cap : new int[] {4, 5, 20, 59, 60}) {
+        for (int cap : CAPS) {
             for (int amount = -cap; amount <= cap; amount++) {
                 Tried tried = Tried.of(checks, cap, 2, "a" + amount);
                 for (int x = Math.max(0, -amount); x <= Math.min(cap, cap - amount); x++) {
@@ -147,7 +151,7 @@ public final class TermsTest {
     }
 
     private static void addBelowZero() {
-        for (int cap : new int[] {4, 5, 20, 59, 60}) {
+        for (int cap : CAPS) {
             closes(cap, "a-3", 4, 1);
             closes(cap, "a-3", 3, 0);
             closes(cap, "a-3", 2, 0);
@@ -167,7 +171,7 @@ public final class TermsTest {
     }
 
     private static void addAboveCap() {
-        for (int cap : new int[] {4, 5, 20, 59, 60}) {
+        for (int cap : CAPS) {
             closes(cap, "a3", cap - 4, cap - 1);
             closes(cap, "a3", cap - 3, cap);
             closes(cap, "a3", cap - 2, cap);
@@ -187,7 +191,7 @@ public final class TermsTest {
     }
 
     private static void lift() {
-        for (int cap : new int[] {4, 5, 20, 59, 60}) {
+        for (int cap : CAPS) {
             for (int amount = 0; amount <= cap; amount++) {
                 Tried tried = Tried.of(checks, cap, 2, "l" + amount);
                 for (int x = 0; x <= cap; x++) {
@@ -198,7 +202,7 @@ public final class TermsTest {
     }
 
     private static void trim() {
-        for (int cap : new int[] {4, 5, 20, 59, 60}) {
+        for (int cap : CAPS) {
             for (int amount = 0; amount <= cap; amount++) {
                 Tried tried = Tried.of(checks, cap, 2, "t" + amount);
                 for (int x = 0; x <= cap; x++) {
@@ -209,7 +213,7 @@ public final class TermsTest {
     }
 
     private static void set() {
-        for (int cap : new int[] {4, 5, 20, 59, 60}) {
+        for (int cap : CAPS) {
             for (int amount = 0; amount <= cap; amount++) {
                 Tried tried = Tried.of(checks, cap, 2, "s" + amount);
                 for (int x = 0; x <= cap; x++) {
@@ -239,7 +243,7 @@ public final class TermsTest {
     }
 
     private static void amountsOfAdd() {
-        for (int[] caps : new int[][] {{Edges.LOW, 4}, {3, 4}, {4, 4}, {5, 5}, {59, 59}, {60, 60}, {61, 60}, {Edges.HIGH, 60}}) {
+        for (int[] caps : GIVEN_AND_CLAMPED) {
             Tried tried = new Tried(checks, caps[0], 40);
             int cap = caps[1];
             tried.due(1, "insert", 0, 0, -cap);
@@ -255,7 +259,7 @@ public final class TermsTest {
     }
 
     private static void amountsOfTheOthers() {
-        for (int[] caps : new int[][] {{Edges.LOW, 4}, {3, 4}, {4, 4}, {5, 5}, {59, 59}, {60, 60}, {61, 60}, {Edges.HIGH, 60}}) {
+        for (int[] caps : GIVEN_AND_CLAMPED) {
             for (int kind = 1; kind < 4; kind++) {
                 Tried tried = new Tried(checks, caps[0], 40);
                 int cap = caps[1];
